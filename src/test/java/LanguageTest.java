@@ -1,0 +1,187 @@
+import java.io.IOException;
+import java.lang.reflect.Field;
+import java.lang.reflect.Member;
+import java.lang.reflect.Method;
+import java.lang.reflect.Modifier;
+import java.nio.file.Files;
+import java.nio.file.Path;
+import java.util.ArrayList;
+import java.util.Collections;
+import java.util.HashSet;
+import java.util.List;
+import java.util.Set;
+import java.util.regex.Matcher;
+import java.util.regex.Pattern;
+
+/** The public face of the document, and those rules of LANGUAGE.md that a test can see. */
+public final class LanguageTest {
+    private static final Path SOURCE = Path.of("src/main/java/EntryTree.java");
+    private static final List<String> FACE = List.of(
+        "public int add(int, int, int)", "public boolean remove(int)", "public boolean move(int, int, int)",
+        "public boolean point(int, int)", "public boolean put(int, int, int, boolean)",
+        "public boolean rule(int, int, int, int)", "public int token(int, int, int)", "public int wipe()",
+        "public int search(int, int, int, int)", "public int found(int)", "public int child(int, int)",
+        "public int look(int, int)", "public int values(int, int, int)", "public int changed(int, int)",
+        "public int state(int)");
+    private static final Set<Class<?>> TYPES = Set.of(
+        int.class, long.class, short.class, byte.class, char.class, boolean.class,
+        int[].class, long[].class, short[].class, byte[].class, char[].class, boolean[].class);
+    private static final List<String> BANNED = List.of(
+        "float", "double", "String", "Math", "Integer", "System", "Arrays", "Object", "import", "package", "null",
+        "throw", "throws", "try", "catch", "synchronized", "assert", "instanceof", "class (?!EntryTree)", "enum",
+        "interface", "record", "super", "toString", "hashCode", "equals", "clone", "var", "length", "->", "::");
+    private static final Check check = new Check();
+
+    public static void main(String[] args) throws IOException {
+        faceIsThatOfTheDocument();
+        fieldsAreNumbersAndArrays();
+        methodsArePrivateAndNamedApart();
+        String code = withoutComments(Files.readString(SOURCE));
+        wordsThatAreNotUsed(code);
+        arraysAreMadeInFields(code);
+        loopsHaveCounters(code);
+        callsStandAlone(code);
+        methodsAreShort(code);
+        check.end();
+    }
+
+    private static void faceIsThatOfTheDocument() {
+        check.part("face");
+        Set<String> got = new HashSet<>();
+        for (Method method : EntryTree.class.getDeclaredMethods()) {
+            if (Modifier.isPublic(method.getModifiers())) {
+                got.add(method.toString().replace("EntryTree.", "").replace(",", ", "));
+            }
+        }
+        check.holds("the methods are " + FACE + ", got " + got, got.equals(new HashSet<>(FACE)));
+        check.due("modifiers", EntryTree.class.getModifiers(), Modifier.PUBLIC | Modifier.FINAL);
+        check.due("constructors", EntryTree.class.getDeclaredConstructors().length, 1);
+        check.due("public constructors", EntryTree.class.getConstructors().length, 1);
+        check.due("parameters", EntryTree.class.getConstructors()[0].getParameterCount(), 0);
+        check.due("public fields", EntryTree.class.getFields().length, 3);
+        check.due("NONE", EntryTree.NONE, -1);
+        check.due("NOTHING", EntryTree.NOTHING, -2);
+        check.due("HIDDEN", EntryTree.HIDDEN, -3);
+        check.due("classes inside", EntryTree.class.getDeclaredClasses().length, 0);
+    }
+
+    private static boolean isPublicOrPrivate(Member member) {
+        return (member.getModifiers() & (Modifier.PUBLIC | Modifier.PRIVATE)) != 0;
+    }
+
+    private static void fieldsAreNumbersAndArrays() {
+        check.part("fields");
+        int held = 0;
+        for (Field field : EntryTree.class.getDeclaredFields()) {
+            boolean constant = Modifier.isStatic(field.getModifiers());
+            held += constant ? 0 : 1;
+            check.holds(field + " is public or private", isPublicOrPrivate(field));
+            check.holds(field + " is of a type that is left", TYPES.contains(field.getType()));
+            if (constant) {
+                check.holds(field + " is a constant number", Modifier.isFinal(field.getModifiers())
+                    && (field.getType() == int.class || field.getType() == long.class));
+            } else {
+                check.holds(field + " is private", Modifier.isPrivate(field.getModifiers()));
+            }
+        }
+        check.holds("at most forty fields", held <= 40);
+    }
+
+    private static void methodsArePrivateAndNamedApart() {
+        check.part("methods");
+        Set<String> publicNames = new HashSet<>();
+        for (Method method : EntryTree.class.getMethods()) {
+            publicNames.add(method.getName());
+        }
+        for (Method method : EntryTree.class.getDeclaredMethods()) {
+            check.holds(method + " is public or private", isPublicOrPrivate(method));
+            check.holds(method + " has at most seven parameters", method.getParameterCount() <= 7);
+            check.holds(method + " answers no array", !method.getReturnType().isArray());
+            if (Modifier.isPrivate(method.getModifiers())) {
+                check.holds(method + " has a name of its own", !publicNames.contains(method.getName()));
+            }
+        }
+    }
+
+    private static String withoutComments(String source) {
+        return source.replaceAll("//[^\n]*", "").replaceAll("(?s)/\\*.*?\\*/", "");
+    }
+
+    private static void wordsThatAreNotUsed(String code) {
+        check.part("words");
+        for (String word : BANNED) {
+            String bounded = Character.isLetter(word.charAt(0)) ? "\\b" + word + (word.endsWith(")") ? "" : "\\b") : word;
+            check.holds(word + " is not used", !Pattern.compile(bounded).matcher(code).find());
+        }
+    }
+
+    private static void arraysAreMadeInFields(String code) {
+        check.part("arrays");
+        for (String line : code.split("\n")) {
+            if (line.matches(".*\\bnew\\b.*")) {
+                check.holds("made in a field: " + line,
+                    line.matches("    private final (int|boolean)\\[] \\w+ = new \\1\\[[A-Z_ *]+];"));
+            }
+        }
+    }
+
+    private static void loopsHaveCounters(String code) {
+        check.part("loops");
+        check.holds("no while", !Pattern.compile("\\b(while|do)\\b").matcher(code).find());
+        Matcher loop = Pattern.compile("\\bfor \\(([^\n]*)\\) \\{").matcher(code);
+        while (loop.find()) {
+            check.holds("a counter against a bound: " + loop.group(1), loop.group(1).matches(
+                "int (\\w+) = 0; \\1 < \\w+( && [^;]*)?; \\1\\+\\+|int (\\w+) = tokenCount - 1; \\3 >= 0; \\3--"));
+        }
+    }
+
+    private static void callsStandAlone(String code) {
+        check.part("calls");
+        // A call's arguments hold no further bracket that opens behind a name.
+        Matcher nested = Pattern.compile("\\b(?!if|for|switch|return)\\w+\\([^()]*\\b\\w+\\(").matcher(code);
+        while (nested.find()) {
+            String name = nested.group().replaceAll("\\(.*", "");
+            check.holds("no call inside a call's arguments: " + nested.group(), name.isEmpty());
+        }
+        check.holds("calls go at most six deep", depth(code) <= 6);
+    }
+
+    private static List<String> methodsOf(String code) {
+        List<String> methods = new ArrayList<>();
+        Matcher method = Pattern.compile("(?s)\n    (public|private) [^=;{]*\\) \\{\n.*?\n    }\n").matcher(code);
+        while (method.find()) {
+            methods.add(method.group().strip());
+        }
+        return methods;
+    }
+
+    private static void methodsAreShort(String code) {
+        check.part("short");
+        List<String> methods = methodsOf(code);
+        check.due("methods seen", methods.size(), EntryTree.class.getDeclaredMethods().length + 1);
+        for (String method : methods) {
+            check.holds("at most sixty lines: " + method.split("\n")[0], method.split("\n").length <= 60);
+        }
+    }
+
+    /** How many methods stand on one another at most; rounds without end tell recursion. */
+    private static int depth(String code) {
+        List<String> methods = methodsOf(code);
+        List<String> names = new ArrayList<>();
+        for (String method : methods) {
+            names.add(method.split("\n")[0].replaceAll("\\(.*", "").replaceAll(".* ", ""));
+        }
+        List<Integer> depths = new ArrayList<>(Collections.nCopies(names.size(), 1));
+        for (int round = 0; round <= names.size(); round++) {
+            for (int caller = 0; caller < names.size(); caller++) {
+                String body = methods.get(caller).split("\n", 2)[1];
+                for (int callee = 0; callee < names.size(); callee++) {
+                    if (Pattern.compile("\\b" + names.get(callee) + "\\(").matcher(body).find()) {
+                        depths.set(caller, Math.max(depths.get(caller), depths.get(callee) + 1));
+                    }
+                }
+            }
+        }
+        return Collections.max(depths);
+    }
+}
