@@ -4,6 +4,7 @@ public final class EntryTree {
     private static final int ENTRIES = 48, ROOT = 0, NAMES = 100;
     private static final int ATTRIBUTES = 6, VALUES = 16, GROUPS = 4;
     private static final int RULES_OF_ENTRY = GROUPS * ATTRIBUTES;
+    private static final int VALUE_SLOTS = ENTRIES * ATTRIBUTES, RULE_SLOTS = ENTRIES * RULES_OF_ENTRY;
     private static final int LAST_SERIAL = 1000000000;
 
     private static final int TOKENS = 12;
@@ -23,8 +24,8 @@ public final class EntryTree {
     private final int[] nameOf = new int[ENTRIES];
     private final int[] aliasOf = new int[ENTRIES];
     private final int[] serialOf = new int[ENTRIES];
-    private final int[] valueBits = new int[ENTRIES * ATTRIBUTES];
-    private final int[] ruleSays = new int[ENTRIES * RULES_OF_ENTRY];
+    private final int[] valueBits = new int[VALUE_SLOTS];
+    private final int[] ruleSays = new int[RULE_SLOTS];
     private int serial = 0;
 
     private final int[] tokenKind = new int[TOKENS];

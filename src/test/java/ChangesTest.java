@@ -4,9 +4,6 @@ import java.util.List;
 /** Promises 15 and 16: changed and state; and the last serial. */
 public final class ChangesTest {
     private static final int NONE = EntryTree.NONE;
-    private static final int[] FAR = {
-        Integer.MIN_VALUE, -3, -2, -1, 48, 100, 1 << 30, Integer.MAX_VALUE
-    };
     private static final Check check = new Check();
 
     public static void main(String[] args) throws Exception {
@@ -25,7 +22,7 @@ public final class ChangesTest {
         for (int k = due.length; k < due.length + 3; k++) {
             check.due("changed(" + after + ", " + k + ")", tree.changed(after, k), NONE);
         }
-        for (int far : FAR) {
+        for (int far : Check.FAR) {
             check.due("changed(" + after + ", " + far + ")", tree.changed(after, far), NONE);
         }
     }
@@ -107,7 +104,7 @@ public final class ChangesTest {
             check.due("state(" + what + ")", tree.state(what), due[what]);
         }
         check.due("state(4)", tree.state(4), NONE);
-        for (int far : FAR) {
+        for (int far : Check.FAR) {
             check.due("state(" + far + ")", tree.state(far), NONE);
         }
     }

@@ -1,5 +1,10 @@
 /** Counts and prints every answer that is not the one that is due. */
 final class Check {
+    /** Numbers that are no entry, name, attribute, value, group or the like (but 48, which is a name). */
+    static final int[] FAR = {
+        Integer.MIN_VALUE, Integer.MIN_VALUE + 1, -3, -2, -1, 48, 100, 1 << 30, Integer.MAX_VALUE
+    };
+
     private int wrong = 0;
     private int asked = 0;
     private String part = "";

@@ -5,9 +5,6 @@ public final class FilterTest {
     private static final int NONE = EntryTree.NONE;
     private static final int HAS = 0, IS = 1, LEAST = 2, MOST = 3, AND = 4, OR = 5, NOT = 6;
     private static final int FALSE = 0, OPEN = 1, TRUE = 2;
-    private static final int[] FAR = {
-        Integer.MIN_VALUE, -3, -2, -1, 48, 100, 1 << 30, Integer.MAX_VALUE
-    };
     private static final Check check = new Check();
 
     public static void main(String[] args) {
@@ -36,7 +33,7 @@ public final class FilterTest {
 
     private static void tokenLooksAtWhatItNames() {
         check.part("promise 8, what is looked at");
-        for (int far : FAR) {
+        for (int far : Check.FAR) {
             EntryTree tree = new EntryTree();
             check.due("AND", tree.token(AND, far, far), 1);
             check.due("OR", tree.token(OR, far, far), 2);
@@ -53,7 +50,7 @@ public final class FilterTest {
         EntryTree tree = new EntryTree();
         tree.token(NOT, 0, 0);
         tree.token(HAS, 0, 0);
-        for (int far : FAR) {
+        for (int far : Check.FAR) {
             check.due("kind " + far, tree.token(far, 0, 0), NONE);
             for (int kind = HAS; kind <= MOST; kind++) {
                 check.due("kind " + kind + ", a " + far, tree.token(kind, far, 0), NONE);

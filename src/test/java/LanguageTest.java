@@ -120,7 +120,7 @@ public final class LanguageTest {
         for (String line : code.split("\n")) {
             if (line.matches(".*\\bnew\\b.*")) {
                 check.holds("made in a field: " + line,
-                    line.matches("    private final (int|boolean)\\[] \\w+ = new \\1\\[[A-Z_ *]+];"));
+                    line.matches("    private final (int|boolean)\\[] \\w+ = new \\1\\[[A-Z_]+];"));
             }
         }
     }

@@ -2,7 +2,6 @@
 public final class ModelTest {
     // One step of a run is up to 34 calls: a wipe, 12 tokens, 3 searches with 6 found each.
     private static final int RUNS = 3000, CALLS = 512 - 34;
-    private static final int[] FAR = {Integer.MIN_VALUE, -2, -1, 48, 100, 1 << 30, Integer.MAX_VALUE};
     private static final Check check = new Check();
 
     private final EntryTree tree = new EntryTree();
@@ -37,7 +36,7 @@ public final class ModelTest {
 
     /** A number below the bound, and now and then one that is far off. */
     private int some(int bound) {
-        return below(40) == 0 ? FAR[below(FAR.length)] : below(bound);
+        return below(40) == 0 ? Check.FAR[below(Check.FAR.length)] : below(bound);
     }
 
     private int alias() {

@@ -5,9 +5,6 @@ import java.util.List;
 public final class SearchTest {
     private static final int NONE = EntryTree.NONE;
     private static final int PLAIN = 0, IN = 1, TO = 2, BOTH = 3;
-    private static final int[] FAR = {
-        Integer.MIN_VALUE, -3, -2, -1, 48, 100, 1 << 30, Integer.MAX_VALUE
-    };
     private static final Check check = new Check();
 
     public static void main(String[] args) {
@@ -215,7 +212,7 @@ public final class SearchTest {
         tree.add(0, 1, NONE);
         tree.token(6, 0, 0);
         tree.token(0, 0, 0);
-        for (int far : FAR) {
+        for (int far : Check.FAR) {
             refusedAfterFound(tree, far, 0, 0, 0);
             refusedAfterFound(tree, 0, far, 0, 0);
             refusedAfterFound(tree, 0, 0, far, 0);
@@ -253,7 +250,7 @@ public final class SearchTest {
         check.due("found(0)", tree.found(0), 1);
         check.due("what is not there any more", tree.found(1), 3);
         check.due("found(2)", tree.found(2), NONE);
-        for (int far : FAR) {
+        for (int far : Check.FAR) {
             check.due("found(" + far + ")", tree.found(far), NONE);
         }
         List<Integer> before = Snapshot.of(tree);

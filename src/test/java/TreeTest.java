@@ -3,9 +3,6 @@ import java.util.List;
 /** Promises 1 to 5, 12 and 13: a new object, add, remove, move, point, child and look. */
 public final class TreeTest {
     private static final int NONE = EntryTree.NONE, NOTHING = EntryTree.NOTHING;
-    private static final int[] FAR = {
-        Integer.MIN_VALUE, Integer.MIN_VALUE + 1, -3, -2, -1, 48, 100, 1 << 30, Integer.MAX_VALUE
-    };
     private static final Check check = new Check();
 
     public static void main(String[] args) {
@@ -74,7 +71,7 @@ public final class TreeTest {
         tree.add(0, 1, NONE);
         tree.add(0, 2, 1);
         List<Integer> before = Snapshot.of(tree);
-        for (int far : FAR) {
+        for (int far : Check.FAR) {
             check.due("parent " + far, tree.add(far, 50, NONE), NONE);
             if (far != NONE) {
                 check.due("alias " + far, tree.add(0, 50, far), NONE);
@@ -136,7 +133,7 @@ public final class TreeTest {
         tree.add(0, 1, NONE);
         tree.add(1, 1, 1);
         List<Integer> before = Snapshot.of(tree);
-        for (int far : FAR) {
+        for (int far : Check.FAR) {
             check.due("remove " + far, tree.remove(far), false);
         }
         check.due("not there", tree.remove(3), false);
@@ -154,11 +151,19 @@ public final class TreeTest {
         EntryTree tree = new EntryTree();
         tree.add(0, 1, NONE);
         tree.add(0, 2, 1);
-        tree.put(1, 5, 15, true);
-        tree.rule(1, 3, 5, 0);
+        for (int a = 0; a < 6; a++) {
+            tree.put(1, a, 15 - a, true);
+            for (int group = 0; group < 4; group += 3) {
+                tree.rule(1, group, a, 0);
+            }
+        }
         tree.remove(1);
         check.due("add", tree.add(0, 3, NONE), 1);
-        check.due("no value, no rule", tree.values(1, 5, 3), 0);
+        for (int a = 0; a < 6; a++) {
+            for (int group = 0; group < 4; group++) {
+                check.due("no value, no rule", tree.values(1, a, group), 0);
+            }
+        }
         check.due("the old alias", tree.look(2, 2), NOTHING);
         check.due("no alias", tree.look(1, 2), NONE);
     }
@@ -207,7 +212,7 @@ public final class TreeTest {
         check.part("promise 4, refused");
         EntryTree tree = grown();
         List<Integer> before = Snapshot.of(tree);
-        for (int far : FAR) {
+        for (int far : Check.FAR) {
             check.due("e " + far, tree.move(far, 4, 50), false);
             check.due("parent " + far, tree.move(1, far, 50), false);
             if (far != 48) {
@@ -248,7 +253,7 @@ public final class TreeTest {
         check.part("promise 5, refused");
         EntryTree tree = grown();
         List<Integer> before = Snapshot.of(tree);
-        for (int far : FAR) {
+        for (int far : Check.FAR) {
             check.due("e " + far, tree.point(far, 0), false);
             check.due("to " + far, tree.point(5, far), false);
         }
@@ -270,7 +275,7 @@ public final class TreeTest {
         check.due("not through an alias", tree.child(5, 2), NONE);
         check.due("parent not there", tree.child(7, 2), NONE);
         check.due("the root has no parent", tree.child(NONE, NONE), NONE);
-        for (int far : FAR) {
+        for (int far : Check.FAR) {
             check.due("parent " + far, tree.child(far, 1), NONE);
             check.due("name " + far, tree.child(0, far), NONE);
         }
@@ -319,7 +324,7 @@ public final class TreeTest {
     private static void lookOfOthersIsNone() {
         check.part("promise 13, others");
         EntryTree tree = grown();
-        for (int far : FAR) {
+        for (int far : Check.FAR) {
             check.due("what " + far, tree.look(1, far), NONE);
             for (int what = 0; what < 8; what++) {
                 check.due("e " + far, tree.look(far, what), NONE);

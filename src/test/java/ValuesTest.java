@@ -3,15 +3,13 @@ import java.util.List;
 /** Promises 6, 7, 14 and 17: put, rule, values and the order of refusals. */
 public final class ValuesTest {
     private static final int NONE = EntryTree.NONE, HIDDEN = EntryTree.HIDDEN;
-    private static final int[] FAR = {
-        Integer.MIN_VALUE, -3, -2, -1, 48, 100, 1 << 30, Integer.MAX_VALUE
-    };
     private static final Check check = new Check();
 
     public static void main(String[] args) {
         putSetsAndClears();
         putRefuses();
         ruleIsFoundOnTheWayUp();
+        ruleIsFoundFromTheDeepest();
         ruleIsOfOneGroupAndAttribute();
         ruleFollowsTheMove();
         ruleRefuses();
@@ -55,7 +53,7 @@ public final class ValuesTest {
         EntryTree tree = line();
         tree.put(1, 0, 0, true);
         List<Integer> before = Snapshot.of(tree);
-        for (int far : FAR) {
+        for (int far : Check.FAR) {
             for (boolean on : new boolean[] {true, false}) {
                 check.due("e " + far, tree.put(far, 0, 0, on), false);
                 check.due("a " + far, tree.put(1, far, 0, on), false);
@@ -93,6 +91,18 @@ public final class ValuesTest {
         check.due("own serial", tree.look(3, 6), 5);
     }
 
+    private static void ruleIsFoundFromTheDeepest() {
+        check.part("promise 7, deepest");
+        EntryTree tree = new EntryTree();
+        for (int e = 1; e < 48; e++) {
+            tree.add(e - 1, 0, NONE);
+        }
+        tree.rule(0, 0, 0, 0);
+        check.due("47 entries up", tree.values(47, 0, 0), HIDDEN);
+        tree.rule(47, 0, 0, 1);
+        check.due("its own", tree.values(47, 0, 0), 0);
+    }
+
     private static void ruleIsOfOneGroupAndAttribute() {
         check.part("promise 7, one alone");
         EntryTree tree = line();
@@ -124,7 +134,7 @@ public final class ValuesTest {
         EntryTree tree = line();
         tree.rule(2, 0, 0, 0);
         List<Integer> before = Snapshot.of(tree);
-        for (int far : FAR) {
+        for (int far : Check.FAR) {
             check.due("e " + far, tree.rule(far, 0, 0, 0), false);
             check.due("group " + far, tree.rule(1, far, 0, 0), false);
             check.due("a " + far, tree.rule(1, 0, far, 0), false);
@@ -165,7 +175,7 @@ public final class ValuesTest {
             }
         }
         check.due("hidden", tree.values(1, 0, 0), HIDDEN);
-        for (int far : FAR) {
+        for (int far : Check.FAR) {
             check.due("e " + far, tree.values(far, 0, 0), NONE);
             check.due("a " + far, tree.values(1, far, 0), NONE);
             check.due("group " + far, tree.values(1, 0, far), NONE);
