@@ -1,4 +1,3 @@
-import java.lang.reflect.Field;
 import java.util.List;
 
 /** Promises 15 and 16: changed and state; and the last serial. */
@@ -6,7 +5,7 @@ public final class ChangesTest {
     private static final int NONE = EntryTree.NONE;
     private static final Check check = new Check();
 
-    public static void main(String[] args) throws Exception {
+    public static void main(String[] args) {
         changedByRisingSerials();
         changedOfAllEntries();
         stateCounts();
@@ -121,15 +120,12 @@ public final class ChangesTest {
         check.due("state(0)", tree.state(0), 1);
     }
 
-    // No run of 512 calls comes to the last serial, so the test sets the field itself.
-    private static void lastSerial() throws Exception {
+    private static void lastSerial() {
         check.part("the last serial");
         EntryTree tree = new EntryTree();
         tree.add(0, 1, NONE);
         tree.add(0, 2, 1);
-        Field serial = EntryTree.class.getDeclaredField("serial");
-        serial.setAccessible(true);
-        serial.setInt(tree, 999999999);
+        Edges.setSerial(tree, 999999999);
         check.due("the last one", tree.put(1, 0, 0, true), true);
         check.due("state(0)", tree.state(0), 1000000000);
         check.due("changed", tree.changed(999999999, 0), 1);

@@ -29,7 +29,7 @@ public final class LanguageTest {
     private static final List<String> BANNED = List.of(
         "float", "double", "String", "Math", "Integer", "System", "Arrays", "Object", "import", "package", "null",
         "throw", "throws", "try", "catch", "synchronized", "assert", "instanceof", "class (?!EntryTree)", "enum",
-        "interface", "record", "super", "toString", "hashCode", "equals", "clone", "var", "length", "->", "::");
+        "interface", "record", "super", "toString", "hashCode", "equals", "clone", "->", "::");
     private static final Check check = new Check();
 
     public static void main(String[] args) throws IOException {
@@ -38,8 +38,8 @@ public final class LanguageTest {
         methodsArePrivateAndNamedApart();
         String code = withoutComments(Files.readString(SOURCE));
         wordsThatAreNotUsed(code);
-        arraysAreMadeInFields(code);
-        loopsHaveCounters(code);
+        arraysAreMadeAtTheStart(code);
+        loopsHaveBounds(code);
         callsStandAlone(code);
         methodsAreShort(code);
         check.end();
@@ -115,23 +115,30 @@ public final class LanguageTest {
         }
     }
 
-    private static void arraysAreMadeInFields(String code) {
+    private static void arraysAreMadeAtTheStart(String code) {
         check.part("arrays");
-        for (String line : code.split("\n")) {
-            if (line.matches(".*\\bnew\\b.*")) {
-                check.holds("made in a field: " + line,
-                    line.matches("    private final (int|boolean)\\[] \\w+ = new \\1\\[[A-Z_]+];"));
+        String made = "(int|long|short|byte|char|boolean)\\s*\\[[A-Z0-9_ *+-]+]";
+        Matcher making = Pattern.compile("\\bnew\\s+([^;]*)").matcher(code);
+        while (making.find()) {
+            check.holds("a length that is a constant: " + making.group(), making.group(1).strip().matches(made));
+        }
+        for (String method : methodsOf(code)) {
+            if (!headOf(method).contains("public EntryTree(")) {
+                check.holds("no array made in " + headOf(method), !Pattern.compile("\\bnew\\b").matcher(method).find());
             }
         }
     }
 
-    private static void loopsHaveCounters(String code) {
+    private static void loopsHaveBounds(String code) {
         check.part("loops");
-        check.holds("no while", !Pattern.compile("\\b(while|do)\\b").matcher(code).find());
-        Matcher loop = Pattern.compile("\\bfor \\(([^\n]*)\\) \\{").matcher(code);
-        while (loop.find()) {
-            check.holds("a counter against a bound: " + loop.group(1), loop.group(1).matches(
-                "int (\\w+) = 0; \\1 < \\w+( && [^;]*)?; \\1\\+\\+|int (\\w+) = tokenCount - 1; \\3 >= 0; \\3--"));
+        Matcher counted = Pattern.compile("\\bfor\\s*\\([^;]*;([^;]*);([^{]*)\\)\\s*\\{").matcher(code);
+        while (counted.find()) {
+            check.holds("against a bound: " + counted.group(1), counted.group(1).matches("(?s).*[<>].*"));
+            check.holds("a counter: " + counted.group(2), counted.group(2).matches("(?s).*(\\+\\+|--|\\+=|-=).*"));
+        }
+        Matcher other = Pattern.compile("\\bwhile\\s*\\(([^\\n]*)").matcher(code);
+        while (other.find()) {
+            check.holds("against a bound: " + other.group(1), other.group(1).matches(".*[<>].*"));
         }
     }
 
@@ -146,13 +153,26 @@ public final class LanguageTest {
         check.holds("calls go at most six deep", depth(code) <= 6);
     }
 
+    /** The methods and the constructor, each from its head to the bracket that ends it. */
     private static List<String> methodsOf(String code) {
         List<String> methods = new ArrayList<>();
-        Matcher method = Pattern.compile("(?s)\n    (public|private) [^=;{]*\\) \\{\n.*?\n    }\n").matcher(code);
-        while (method.find()) {
-            methods.add(method.group().strip());
+        int depth = 0;
+        int from = 0;
+        for (int i = 0; i < code.length(); i++) {
+            char c = code.charAt(i);
+            depth += c == '{' ? 1 : c == '}' ? -1 : 0;
+            boolean startsMember = c == '{' && depth == 1 || c == ';' && depth == 1;
+            if (c == '}' && depth == 1) {
+                methods.add(code.substring(from, i + 1).strip());
+                startsMember = true;
+            }
+            from = startsMember ? i + 1 : from;
         }
         return methods;
+    }
+
+    private static String headOf(String method) {
+        return method.substring(0, method.indexOf('{')).strip();
     }
 
     private static void methodsAreShort(String code) {
@@ -160,7 +180,7 @@ public final class LanguageTest {
         List<String> methods = methodsOf(code);
         check.due("methods seen", methods.size(), EntryTree.class.getDeclaredMethods().length + 1);
         for (String method : methods) {
-            check.holds("at most sixty lines: " + method.split("\n")[0], method.split("\n").length <= 60);
+            check.holds("at most sixty lines: " + headOf(method), method.split("\n").length <= 60);
         }
     }
 
@@ -169,12 +189,12 @@ public final class LanguageTest {
         List<String> methods = methodsOf(code);
         List<String> names = new ArrayList<>();
         for (String method : methods) {
-            names.add(method.split("\n")[0].replaceAll("\\(.*", "").replaceAll(".* ", ""));
+            names.add(headOf(method).replaceAll("(?s)\\(.*", "").strip().replaceAll("(?s).*\\s", ""));
         }
         List<Integer> depths = new ArrayList<>(Collections.nCopies(names.size(), 1));
         for (int round = 0; round <= names.size(); round++) {
             for (int caller = 0; caller < names.size(); caller++) {
-                String body = methods.get(caller).split("\n", 2)[1];
+                String body = methods.get(caller).substring(headOf(methods.get(caller)).length());
                 for (int callee = 0; callee < names.size(); callee++) {
                     if (Pattern.compile("\\b" + names.get(callee) + "\\(").matcher(body).find()) {
                         depths.set(caller, Math.max(depths.get(caller), depths.get(callee) + 1));
