@@ -322,13 +322,20 @@ public final class TreeEdgesTest {
 
     private static void removeLeavesItsNeighboursAlone() {
         edges.part("promise 3, 'removes an entry', and no more than it");
-        Edges.Steps three = t -> {
+        Edges.Steps withValues = t -> {
             for (int e = 1; e <= 3; e++) {
                 t.add(0, e, NONE);
                 for (int a = 0; a < 6; a++) {
                     t.put(e, a, 15 - a, true);
-                    t.rule(e, 3 - a % 4, a, 0);
-                    t.rule(e, a % 4, 5 - a, 0);
+                }
+            }
+            t.remove(2);
+        };
+        Edges.Steps withRules = t -> {
+            for (int e = 1; e <= 3; e++) {
+                t.add(0, e, NONE);
+                for (int i = 0; i < 24; i++) {
+                    t.rule(e, i / 6, i % 6, 0);
                 }
             }
             t.remove(2);
@@ -336,12 +343,12 @@ public final class TreeEdgesTest {
         for (int e : new int[] {1, 3}) {
             for (int i = 0; i < 24; i++) {
                 int a = i % 6, group = i / 6;
-                boolean hidden = group == 3 - a % 4 || group == (5 - a) % 4;
-                edges.answers("values(" + e + ", " + a + ", " + group + ")", three, t -> t.values(e, a, group),
-                    hidden ? Edges.HIDDEN : 1 << 15 - a);
+                edges.answers("values of " + e + ", a " + a, withValues, t -> t.values(e, a, group), 1 << 15 - a);
+                edges.answers("rule of " + e + ", a " + a + ", group " + group, withRules,
+                    t -> t.values(e, a, group), Edges.HIDDEN);
             }
         }
-        edges.accepts("name, parent and serial", three, t -> t.child(0, 1) == 1 && t.child(0, 3) == 3
+        edges.accepts("name, parent and serial", withValues, t -> t.child(0, 1) == 1 && t.child(0, 3) == 3
             && t.look(1, 6) == 7 && t.look(3, 6) == 21 && t.look(0, 3) == 2);
     }
 
