@@ -30,6 +30,7 @@ public final class LanguageTest {
         "float", "double", "String", "Math", "Integer", "System", "Arrays", "Object", "import", "package", "null",
         "throw", "throws", "try", "catch", "synchronized", "assert", "instanceof", "class (?!EntryTree)", "enum",
         "interface", "record", "super", "toString", "hashCode", "equals", "clone", "->", "::");
+    private static final Set<String> WORDS_BEFORE_BRACKETS = Set.of("if", "for", "while", "switch", "return");
     private static final Check check = new Check();
 
     public static void main(String[] args) throws IOException {
@@ -39,6 +40,7 @@ public final class LanguageTest {
         String code = withoutComments(Files.readString(SOURCE));
         wordsThatAreNotUsed(code);
         arraysAreMadeAtTheStart(code);
+        arraysStayInTheirFields(code);
         loopsHaveBounds(code);
         callsStandAlone(code);
         methodsAreShort(code);
@@ -129,6 +131,26 @@ public final class LanguageTest {
         }
     }
 
+    private static void arraysStayInTheirFields(String code) {
+        check.part("array fields");
+        for (Field field : EntryTree.class.getDeclaredFields()) {
+            if (field.getType().isArray()) {
+                int times = timesAssigned(code, field.getName());
+                check.due(field.getName() + " is made once, and not assigned again", times, 1);
+            }
+        }
+        check.due("seen", timesAssigned("int[] tops = new int[3]; tops = other; tops[0] = 1; if (tops == x)", "tops"), 2);
+    }
+
+    private static int timesAssigned(String code, String name) {
+        Matcher assigned = Pattern.compile("\\b" + name + "\\s*=(?!=)").matcher(code);
+        int times = 0;
+        while (assigned.find()) {
+            times++;
+        }
+        return times;
+    }
+
     private static void loopsHaveBounds(String code) {
         check.part("loops");
         Matcher counted = Pattern.compile("\\bfor\\s*\\([^;]*;([^;]*);([^{]*)\\)\\s*\\{").matcher(code);
@@ -144,13 +166,40 @@ public final class LanguageTest {
 
     private static void callsStandAlone(String code) {
         check.part("calls");
-        // A call's arguments hold no further bracket that opens behind a name.
-        Matcher nested = Pattern.compile("\\b(?!if|for|switch|return)\\w+\\([^()]*\\b\\w+\\(").matcher(code);
-        while (nested.find()) {
-            String name = nested.group().replaceAll("\\(.*", "");
-            check.holds("no call inside a call's arguments: " + nested.group(), name.isEmpty());
-        }
+        List<String> nested = callsInsideCalls(code);
+        check.holds("no call inside a call's arguments: " + nested, nested.isEmpty());
+        // What the check must see: a name that begins with a keyword, and a bracket between the calls.
+        check.due("seen", callsInsideCalls("forget(first(e)); mark((e) + first(e));").size(), 2);
+        check.due("fine", callsInsideCalls("if (first(e) && (a || next(e))) { mark((e) + 1); }").size(), 0);
         check.holds("calls go at most six deep", depth(code) <= 6);
+    }
+
+    /** Each name with a bracket behind it that stands inside the brackets of another such name. */
+    private static List<String> callsInsideCalls(String code) {
+        List<String> nested = new ArrayList<>();
+        List<Boolean> opened = new ArrayList<>();
+        for (int i = 0; i < code.length(); i++) {
+            if (code.charAt(i) == '(') {
+                String name = nameBefore(code, i);
+                boolean isCall = !name.isEmpty() && !WORDS_BEFORE_BRACKETS.contains(name);
+                if (isCall && opened.contains(true)) {
+                    nested.add(name);
+                }
+                opened.add(isCall);
+            } else if (code.charAt(i) == ')') {
+                opened.remove(opened.size() - 1);
+            }
+        }
+        return nested;
+    }
+
+    private static String nameBefore(String code, int end) {
+        String before = code.substring(0, end).stripTrailing();
+        int from = before.length();
+        while (from > 0 && Character.isJavaIdentifierPart(before.charAt(from - 1))) {
+            from--;
+        }
+        return before.substring(from);
     }
 
     /** The methods and the constructor, each from its head to the bracket that ends it. */
